@@ -1,0 +1,100 @@
+import java.io.IOException;
+import java.lang.reflect.Constructor;
+import java.lang.reflect.Field;
+import java.lang.reflect.Method;
+import java.lang.reflect.Modifier;
+import java.nio.file.Files;
+import java.nio.file.Path;
+import java.util.Set;
+import java.util.TreeSet;
+import java.util.regex.Pattern;
+
+/** The public face and its constants, and those rules of LANGUAGE.md that a glance at the class can tell. */
+final class FaceTest {
+    private static final String[] CONSTANTS = {
+        "LIMIT=32", "NUM=1", "HEAD=2", "ADD=3", "SUB=4", "MUL=5", "CONS=6", "TAIL=7", "ZIPADD=8", "ZIPSUB=9", "ZIPMUL=10",
+        "REF=11", "DEF=12", "SORT_NONE=0", "SORT_ELEM=1", "SORT_STREAM=2", "ACCEPTED=0", "OPEN=1", "EMPTY=2", "UNDEFINED=3",
+        "UNGUARDED=4", "OK=0", "BLACKHOLE=1", "RANGE=2", "NOTREADY=3", "BADARG=4", "NONE=-1000000"};
+    private static final String[] METHODS = {
+        "void reset()", "boolean begin(int)", "boolean token(int,int)", "int pending()", "int slot(int)", "int openName()",
+        "boolean defined(int)", "int used()", "int cellKind(int)", "int cellValue(int)", "int verdict()", "int guard(int,int)",
+        "int eval(int,int)", "int value()", "int faultName()", "int faultIndex()"};
+
+    public static void main(String[] args) throws IOException, IllegalAccessException {
+        constants();
+        methods();
+        shape();
+        words();
+        Check.end();
+    }
+
+    private static void constants() throws IllegalAccessException {
+        Set<String> got = new TreeSet<>();
+        for (Field f : ProductiveStreams.class.getDeclaredFields()) {
+            int m = f.getModifiers();
+            if (Modifier.isPublic(m) && Modifier.isStatic(m) && Modifier.isFinal(m) && f.getType() == int.class) {
+                got.add(f.getName() + "=" + f.getInt(null));
+            } else {
+                Check.due("field " + f.getName() + " is private", Modifier.isPrivate(m), true);
+                Check.due("field " + f.getName() + " is of an allowed type", allowed(f.getType(), Modifier.isStatic(m)), true);
+            }
+        }
+        Check.due("the constants", got.toString(), new TreeSet<>(Set.of(CONSTANTS)).toString());
+    }
+
+    private static boolean allowed(Class<?> type, boolean isStatic) {
+        if (isStatic) {
+            return type == int.class || type == long.class;
+        }
+        Class<?> part = type.isArray() ? type.getComponentType() : type;
+        return part.isPrimitive() && part != float.class && part != double.class;
+    }
+
+    private static void methods() {
+        Set<String> got = new TreeSet<>();
+        Set<String> publicNames = new TreeSet<>();
+        for (Method m : ProductiveStreams.class.getDeclaredMethods()) {
+            if (Modifier.isPublic(m.getModifiers())) {
+                got.add(m.getReturnType() + " " + m.getName() + parameters(m.getParameterTypes()));
+                publicNames.add(m.getName());
+            }
+        }
+        Check.due("the public methods", got.toString(), new TreeSet<>(Set.of(METHODS)).toString());
+        for (Method m : ProductiveStreams.class.getDeclaredMethods()) {
+            if (!Modifier.isPublic(m.getModifiers())) {
+                Check.due("method " + m.getName() + " is private", Modifier.isPrivate(m.getModifiers()), true);
+                Check.due("method " + m.getName() + " bears a public name", publicNames.contains(m.getName()), false);
+                Check.due("method " + m.getName() + " has few parameters", m.getParameterCount() <= 7, true);
+            }
+        }
+    }
+
+    private static String parameters(Class<?>[] types) {
+        StringBuilder b = new StringBuilder();
+        for (Class<?> t : types) {
+            b.append(b.length() == 0 ? "" : ",").append(t);
+        }
+        return "(" + b + ")";
+    }
+
+    private static void shape() {
+        Class<?> c = ProductiveStreams.class;
+        Check.due("the class is public and final", c.getModifiers(), Modifier.PUBLIC | Modifier.FINAL);
+        Check.due("nested classes", c.getDeclaredClasses().length, 0);
+        Check.due("the package", c.getPackageName(), "");
+        Constructor<?>[] made = c.getDeclaredConstructors();
+        Check.due("constructors", made.length, 1);
+        Check.due("the constructor", Modifier.toString(made[0].getModifiers()) + parameters(made[0].getParameterTypes()), "public(int,int)");
+    }
+
+    private static void words() throws IOException {
+        String source = Files.readString(Path.of("src/main/java/ProductiveStreams.java"));
+        String code = source.replaceAll("//[^\n]*", "").replaceAll("(?s)/\\*.*?\\*/", "");
+        String[] ruledOut = {"import", "package", "throw", "throws", "try", "catch", "synchronized", "assert", "instanceof", "null",
+            "float", "double", "String", "Math", "Integer", "System", "Arrays", "Object", "enum", "record", "interface", "var"};
+        for (String word : ruledOut) {
+            Check.due("the word " + word, Pattern.compile("\\b" + word + "\\b").matcher(code).find(), false);
+        }
+        Check.due("a lambda or a method reference", code.contains("->") || code.contains("::"), false);
+    }
+}
