@@ -55,7 +55,8 @@ public final class ProductiveStreams {
     private final int[] ownerOf = new int[MAX_CELLS];
     private final int[] offsetOf = new int[MAX_CELLS];
     private final int[] parentOf = new int[MAX_CELLS];
-    private final int[] secondChildOf = new int[MAX_CELLS];
+    // Only the last child needs a note: in prefix order a first child follows its parent at once.
+    private final int[] lastChildOf = new int[MAX_CELLS];
 
     private final boolean[] closed = new boolean[MAX_NAMES];
     private final int[] rootOf = new int[MAX_NAMES];
@@ -164,10 +165,7 @@ public final class ProductiveStreams {
         int parent = slotParent[slotCount];
         offsetOf[cell] = slotOffset[slotCount];
         parentOf[cell] = parent;
-        // In prefix order a first child follows its parent at once.
-        if (cell != parent + 1) {
-            secondChildOf[parent] = cell;
-        }
+        lastChildOf[parent] = cell;
     }
 
     // The second child goes in first, so that the first child is the next to fill.
@@ -470,15 +468,15 @@ public final class ProductiveStreams {
             case TAIL:
                 return visitValue[cell + 1];
             case CONS:
-                return visitIndex[cell] == 0 ? visitValue[cell + 1] : visitValue[secondChildOf[cell]];
+                return visitIndex[cell] == 0 ? visitValue[cell + 1] : visitValue[lastChildOf[cell]];
             case ADD:
             case ZIPADD:
-                return visitValue[cell + 1] + visitValue[secondChildOf[cell]];
+                return visitValue[cell + 1] + visitValue[lastChildOf[cell]];
             case SUB:
             case ZIPSUB:
-                return visitValue[cell + 1] - visitValue[secondChildOf[cell]];
+                return visitValue[cell + 1] - visitValue[lastChildOf[cell]];
             default:
-                return visitValue[cell + 1] * visitValue[secondChildOf[cell]];
+                return visitValue[cell + 1] * visitValue[lastChildOf[cell]];
         }
     }
 

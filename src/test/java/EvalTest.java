@@ -18,6 +18,7 @@ final class EvalTest {
         manyDemands();
         longestPath();
         widestTrees();
+        nothingKept();
         Check.end();
     }
 
@@ -177,6 +178,12 @@ final class EvalTest {
         ProductiveStreams most = Check.system(2, 96, "DEF 1 " + Check.repeat("TAIL", 94) + "REF 1");
         Check.dueFault(most, 1, 31, RANGE, 1, 125);
         Check.dueFault(most, 1, 0, RANGE, 1, 94);
+        // The pair beyond the limit of one name is not the first pair of the next name.
+        String far = " TAIL".repeat(32) + " REF ";
+        ProductiveStreams next = Check.system(3, 60, "DEF 0 CONS NUM 7 REF 0", ones, "DEF 2 CONS ADD HEAD REF 1 HEAD" + far + "0 REF 2");
+        Check.dueFault(next, 2, 0, RANGE, 0, 32);
+        ProductiveStreams last = Check.system(8, 60, "DEF 7 CONS NUM 7 REF 7", "DEF 0 CONS HEAD" + far + "7 REF 7");
+        Check.dueFault(last, 0, 0, RANGE, 7, 32);
         // A cell may be visited beyond the limit as long as nothing is demanded there.
         ProductiveStreams inner = Check.system(3, 40, ones, "DEF 0 TAIL TAIL CONS NUM 2 CONS NUM 3 REF 1");
         Check.dueOk(inner, 0, 31, 1);
@@ -278,6 +285,27 @@ final class EvalTest {
         Check.due("used() of the list", list.used(), 96);
         for (int j = 0; j < 32; j++) {
             Check.dueOk(list, 0, j, j * j);
+        }
+    }
+
+    /** An evaluation that faulted leaves nothing behind that a later one could stumble over. */
+    private static void nothingKept() {
+        ProductiveStreams s = Check.system(2, 16, "DEF 0 TAIL REF 0", "DEF 1 REF 0");
+        for (int j = 0; j < 32; j++) {
+            Check.dueFault(s, 0, j, RANGE, 0, 32);
+            Check.dueFault(s, 1, j, RANGE, 0, 32);
+        }
+        s.reset();
+        Check.enter(s, "DEF 1 ZIPADD REF 0 REF 0");
+        Check.enter(s, "DEF 0 CONS NUM 4 CONS NUM 6 REF 0");
+        for (int j = 0; j < 32; j++) {
+            Check.dueOk(s, 1, j, j % 2 == 0 ? 8 : 12);
+        }
+        s.reset();
+        Check.enter(s, "DEF 0 CONS NUM 5 REF 0");
+        Check.enter(s, "DEF 1 ZIPADD REF 0 REF 0");
+        for (int j = 0; j < 32; j++) {
+            Check.dueOk(s, 1, j, 10);
         }
     }
 }

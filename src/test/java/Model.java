@@ -200,7 +200,7 @@ final class Model {
     }
 
     private void step() {
-        if (++steps > 300000) {
+        if (++steps > 20000) {
             throw new TooLong();
         }
     }

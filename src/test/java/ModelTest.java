@@ -1,10 +1,12 @@
 /** All promises at once: long runs of calls on the class and on the model, which must answer alike. */
 final class ModelTest {
-    private static final int RUNS = 6000;
+    private static final int RUNS = 3000;
     private static final int[] ODD = {Integer.MIN_VALUE, -2, -1, 8, 9, 31, 32, 33, 95, 96, 97, Integer.MAX_VALUE};
 
     private static long seed;
     private static StringBuilder calls;
+    // Whether the run prefers CONS, without which hardly any system is accepted.
+    private static boolean guarded;
     private static final int[] verdicts = new int[5];
     private static final int[] outcomes = new int[5];
 
@@ -16,8 +18,8 @@ final class ModelTest {
         }
         if (!Check.anyWrong()) {
             for (int k = 0; k < 5; k++) {
-                Check.due("verdict " + k + " met often", verdicts[k] > 500, true);
-                Check.due("outcome " + k + " met often", outcomes[k] > 500, true);
+                Check.due("verdict " + k + " met often", verdicts[k] > 200, true);
+                Check.due("outcome " + k + " met often", outcomes[k] > 200, true);
             }
         }
         Check.end();
@@ -38,6 +40,7 @@ final class ModelTest {
         // Few names give cycles soon, a growing wish for leaves closes definitions soon.
         int inUse = 1 + below(bound);
         int leaves = 1 + below(6);
+        guarded = below(2) == 0;
         int length = 20 + below(100);
         for (int k = 0; k < length && !Check.anyWrong(); k++) {
             oneCall(s, m, inUse, leaves);
@@ -89,7 +92,13 @@ final class ModelTest {
         if (m.slot(0) == 1) {
             return leaf ? 1 : 2 + below(4);
         }
-        return leaf ? 11 : below(3) == 0 ? 6 + below(5) : 6 + below(2);
+        if (leaf) {
+            return 11;
+        }
+        if (guarded) {
+            return below(12) == 0 ? 7 : below(3) == 0 ? 8 + below(3) : 6;
+        }
+        return below(3) == 0 ? 6 + below(5) : 6 + below(2);
     }
 
     private static void begin(ProductiveStreams s, Model m, int name) {
@@ -105,6 +114,9 @@ final class ModelTest {
 
     private static void define(ProductiveStreams s, Model m, int name, int inUse, int leaves) {
         begin(s, m, name);
+        if (guarded && below(8) != 0) {
+            token(s, m, 6, 0, inUse);
+        }
         for (int k = 0; k < 12 && m.pending() > 0; k++) {
             token(s, m, fitting(m, leaves), below(9) - 4, inUse);
         }
