@@ -32,6 +32,10 @@ final class Check {
         return wrong != 0;
     }
 
+    static int wrongSoFar() {
+        return wrong;
+    }
+
     static void end() {
         if (wrong != 0) {
             System.out.println(wrong + " wrong");
