@@ -21,7 +21,7 @@ final class BeginEdgesTest {
     private static void dueRefused(int name, int names, int cells, String... definitions) {
         String call = "begin(" + name + ") after " + String.join("; ", definitions);
         Edges.dueRefused(call, Edges.state(names, cells, definitions), s -> s.begin(name));
-        Edges.dueRefused(call + ", eval(0, 5)", Edges.state(names, cells, 0, 5, definitions), s -> s.begin(name));
+        Edges.dueRefused(call + " with eval(0, 5) on the way", Edges.evaluated(names, cells, definitions), s -> s.begin(name));
     }
 
     /** The open name itself among the names: it is neither out of range nor defined. */
@@ -160,8 +160,9 @@ final class BeginEdgesTest {
     }
 
     private static void resultsStay() {
-        for (ProductiveStreams s : Edges.withResults()) {
-            String before = Check.result(s);
+        for (int outcome = 0; outcome < 3; outcome++) {
+            ProductiveStreams s = Edges.withResults()[outcome];
+            String before = Edges.RESULTS[outcome];
             Check.due("begin(3)", s.begin(3), true);
             Check.due("the result after begin(3)", Check.result(s), before);
         }
@@ -169,20 +170,19 @@ final class BeginEdgesTest {
 
     private static void othersStay() {
         String[] definitions = {"DEF 5 CONS NUM -9 CONS HEAD TAIL REF 5 REF 0", "DEF 0 ZIPSUB REF 5 REF 3", "DEF 7 TAIL REF 7"};
+        String want = Edges.cellsOf(String.join(" ", definitions));
         for (int name = 1; name < 5; name++) {
             ProductiveStreams s = Check.system(8, 96, definitions);
-            ProductiveStreams twin = Check.system(8, 96, definitions);
+            int used = s.used();
             Check.due("begin(" + name + ")", s.begin(name), true);
-            for (int k = 0; k < twin.used(); k++) {
-                Check.due("cellKind(" + k + ") after begin", s.cellKind(k), twin.cellKind(k));
-                Check.due("cellValue(" + k + ") after begin", s.cellValue(k), twin.cellValue(k));
-            }
+            Check.due("the cells before begin(" + name + ")", Edges.cells(s, used), want);
             for (int x = 0; x < 8; x++) {
-                Check.due("defined(" + x + ") after begin", s.defined(x), twin.defined(x));
-                for (int y = 0; y < 8; y++) {
-                    Check.due("guard(" + x + ", " + y + ") after begin", s.guard(x, y), twin.guard(x, y));
-                }
+                Check.due("defined(" + x + ") after begin", s.defined(x), x == 5 || x == 0 || x == 7);
             }
+            Check.due("guard(5, 5) after begin", s.guard(5, 5), 0);
+            Check.due("guard(5, 0) after begin", s.guard(5, 0), -2);
+            Check.due("guard(0, 3) after begin", s.guard(0, 3), 0);
+            Check.due("guard(7, 7) after begin", s.guard(7, 7), 8);
         }
     }
 }

@@ -1,3 +1,5 @@
+import java.util.function.Supplier;
+
 /** The boundary cases of promise 7, a test for each sentence. */
 final class CellsEdgesTest {
     public static void main(String[] args) {
@@ -142,14 +144,19 @@ final class CellsEdgesTest {
 
     private static void changeNothing() {
         String[] words = {"DEF 1", "DEF 1 ZIPADD CONS MUL", "DEF 1 REF 0"};
-        for (String definition : words) {
-            ProductiveStreams s = Check.system(2, 40, "DEF 0 CONS NUM 1 REF 0", definition);
-            for (int k = -2; k < 100; k++) {
-                s.used();
-                s.cellKind(k);
-                s.cellValue(k);
+        int[] used = {5, 8, 6};
+        int[] ks = {Edges.LEAST, -1, 8, 39, 40, 95, 96, Edges.MOST};
+        for (int w = 0; w < words.length; w++) {
+            Supplier<ProductiveStreams> state = Edges.evaluated(2, 40, "DEF 0 CONS NUM 1 REF 0", words[w]);
+            Edges.dueNoChange("used()", state, ProductiveStreams::used, used[w]);
+            Edges.dueNoChange("cellKind(0)", state, s -> s.cellKind(0), ProductiveStreams.DEF);
+            Edges.dueNoChange("cellValue(2)", state, s -> s.cellValue(2), 1);
+            Edges.dueNoChange("cellKind(4)", state, s -> s.cellKind(4), ProductiveStreams.DEF);
+            Edges.dueNoChange("cellValue(4)", state, s -> s.cellValue(4), 1);
+            for (int k : ks) {
+                Edges.dueNoChange("cellKind(" + k + ")", state, s -> s.cellKind(k), 0);
+                Edges.dueNoChange("cellValue(" + k + ")", state, s -> s.cellValue(k), 0);
             }
-            Edges.dueTwins("used, cellKind and cellValue", s, Check.system(2, 40, "DEF 0 CONS NUM 1 REF 0", definition));
         }
     }
 }

@@ -65,7 +65,7 @@ final class Check {
         return s;
     }
 
-    private static int kind(String word) {
+    static int kind(String word) {
         String[] kinds = {"NUM", "HEAD", "ADD", "SUB", "MUL", "CONS", "TAIL", "ZIPADD", "ZIPSUB", "ZIPMUL", "REF", "DEF"};
         for (int k = 0; k < kinds.length; k++) {
             if (kinds[k].equals(word)) {

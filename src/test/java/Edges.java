@@ -1,3 +1,7 @@
+import java.util.LinkedHashMap;
+import java.util.Map;
+import java.util.function.Function;
+import java.util.function.IntUnaryOperator;
 import java.util.function.Predicate;
 import java.util.function.Supplier;
 import java.util.function.ToLongFunction;
@@ -10,6 +14,30 @@ final class Edges {
     /** Ints that no name, cell, slot, kind or index may be, some of them such once their high bits are lost. */
     static final int[] FAR = {LEAST, LEAST + 1, LEAST + 7, -65536, -256, -97, -96, -33, -32, -17, -9, -8, -2, -1,
         97, 128, 256, 257, 65536, 65537, 1 << 30, MOST - 1, MOST};
+
+    /** What is due from the objects of withResults(). */
+    static final String[] RESULTS = {"value 41 fault -1,-1", "value 0 fault 1,7", "value 0 fault 2,32"};
+
+    /** One reading each: the other readings must not get the chance to hide what a call changed. */
+    private static final Map<String, Function<ProductiveStreams, String>> PROBES = new LinkedHashMap<>();
+
+    static {
+        PROBES.put("used()", s -> "" + s.used());
+        PROBES.put("cellKind", s -> answers(-1, 97, s::cellKind));
+        PROBES.put("cellValue", s -> answers(-1, 97, s::cellValue));
+        PROBES.put("pending()", s -> "" + s.pending());
+        PROBES.put("slot", s -> answers(-1, 97, s::slot));
+        PROBES.put("openName()", s -> "" + s.openName());
+        PROBES.put("defined", s -> answers(-1, 9, x -> s.defined(x) ? 1 : 0));
+        PROBES.put("verdict()", s -> "" + s.verdict());
+        PROBES.put("guard", s -> answers(0, 99, k -> s.guard(k / 10 - 1, k % 10 - 1)));
+        PROBES.put("value()", s -> "" + s.value());
+        PROBES.put("faultName()", s -> "" + s.faultName());
+        PROBES.put("faultIndex()", s -> "" + s.faultIndex());
+        PROBES.put("begin", s -> answers(-1, 8, x -> s.begin(x) ? 1 : 0));
+        PROBES.put("eval", Edges::elements);
+        PROBES.put("all that follows", Edges::whatFollows);
+    }
 
     private Edges() {
     }
@@ -62,25 +90,70 @@ final class Edges {
         }
     }
 
-    /** The object must be as its twin, which did not get the call, at once and in all that follows. */
-    static void dueTwins(String call, ProductiveStreams s, ProductiveStreams twin) {
-        Check.due("the object after " + call, judged(s), judged(twin));
+    private static String answers(int least, int most, IntUnaryOperator call) {
+        StringBuilder b = new StringBuilder();
+        for (int k = least; k <= most; k++) {
+            b.append(call.applyAsInt(k)).append(' ');
+        }
+        return b.toString();
+    }
+
+    private static String whatFollows(ProductiveStreams s) {
         complete(s);
-        complete(twin);
-        Check.due("the object after " + call + " and its definition's end", judged(s), judged(twin));
-        Check.due("the elements after " + call, elements(s), elements(twin));
+        return judged(s) + " " + elements(s);
+    }
+
+    /** Objects made in two ways must be the same to every reading, at once and in all that follows. */
+    static void dueSame(String what, Supplier<ProductiveStreams> made, Supplier<ProductiveStreams> twin) {
+        for (String reading : PROBES.keySet()) {
+            String got = PROBES.get(reading).apply(made.get());
+            Check.due(reading + " after " + what, got, PROBES.get(reading).apply(twin.get()));
+        }
     }
 
     static void dueNoChange(String call, Supplier<ProductiveStreams> state, ToLongFunction<ProductiveStreams> made, long want) {
-        ProductiveStreams s = state.get();
-        Check.due(call, made.applyAsLong(s), want);
-        dueTwins(call, s, state.get());
+        Check.due(call, made.applyAsLong(state.get()), want);
+        dueSame(call, () -> {
+            ProductiveStreams s = state.get();
+            made.applyAsLong(s);
+            return s;
+        }, state);
     }
 
     static void dueRefused(String call, Supplier<ProductiveStreams> state, Predicate<ProductiveStreams> made) {
-        ProductiveStreams s = state.get();
-        Check.due(call, made.test(s), false);
-        dueTwins(call, s, state.get());
+        dueNoChange(call, state, s -> made.test(s) ? 1 : 0, 0);
+    }
+
+    /** The cells of a system as its words tell them, not as an object does. */
+    static String cellsOf(String words) {
+        StringBuilder b = new StringBuilder();
+        String[] word = words.trim().split("\\s+");
+        for (int at = 0; at < word.length; at++) {
+            int kind = Check.kind(word[at]);
+            boolean valued = kind == ProductiveStreams.DEF || kind == ProductiveStreams.NUM || kind == ProductiveStreams.REF;
+            b.append(kind).append('/').append(valued ? word[++at] : "0").append(' ');
+        }
+        return b.toString();
+    }
+
+    static String cells(ProductiveStreams s, int count) {
+        StringBuilder b = new StringBuilder();
+        for (int k = 0; k < count; k++) {
+            b.append(s.cellKind(k)).append('/').append(s.cellValue(k)).append(' ');
+        }
+        return b.toString();
+    }
+
+    /** An object after the given words, with the result of the last eval(0, 5) that was not refused on the way. */
+    static Supplier<ProductiveStreams> evaluated(int names, int cells, String... definitions) {
+        return () -> {
+            ProductiveStreams s = new ProductiveStreams(names, cells);
+            for (String definition : definitions) {
+                Check.enter(s, definition);
+                s.eval(0, 5);
+            }
+            return s;
+        };
     }
 
     /** An object after the given words, and after an evaluation at (name, index) if the name is not negative. */
@@ -98,15 +171,12 @@ final class Edges {
         return state(names, cells, -1, -1, definitions);
     }
 
-    /** Objects with the three kinds of result: after OK, after BLACKHOLE and after RANGE; 3 and more are not defined. */
+    /** Objects with the three kinds of result, told in RESULTS; the names 3 and 4 are not defined. */
     static ProductiveStreams[] withResults() {
-        String[] definitions = {"DEF 0 CONS NUM 41 REF 0", "DEF 1 REF 1", "DEF 2 TAIL REF 2"};
         ProductiveStreams[] made = new ProductiveStreams[3];
-        String[] want = {"value 41 fault -1,-1", "value 0 fault 1,7", "value 0 fault 2,32"};
         for (int k = 0; k < 3; k++) {
-            made[k] = Check.system(5, 40, definitions);
+            made[k] = Check.system(5, 40, "DEF 0 CONS NUM 41 REF 0", "DEF 1 REF 1", "DEF 2 TAIL REF 2");
             made[k].eval(k, 7);
-            Check.due("the result of eval(" + k + ", 7)", Check.result(made[k]), want[k]);
         }
         return made;
     }

@@ -163,7 +163,6 @@ final class EvalEdgesTest {
             }
             Supplier<ProductiveStreams> open = then(ready, "DEF 3 CONS ADD");
             Supplier<ProductiveStreams> closed = then(ready, "DEF 3 CONS HEAD REF 3 REF 2");
-            Check.due("the result is still there", Check.result(open.get()), Check.result(ready.get()));
             dueRefused(0, 0, NOTREADY, open);
             dueRefused(0, 32, NOTREADY, open);
             dueRefused(-1, 0, NOTREADY, open);
@@ -346,6 +345,11 @@ final class EvalEdgesTest {
         ProductiveStreams up = Check.system(2, 40, "DEF 0 TAIL REF 1", "DEF 1 CONS NUM 4 REF 0");
         Check.dueFault(up, 0, 30, BLACKHOLE, 0, 30);
         Check.dueFault(up, 0, 31, RANGE, 1, 32);
+        // Both as demands of one walk: the pair itself, and a pair beyond the limit.
+        ProductiveStreams itself = Check.system(2, 40, "DEF 0 ZIPADD REF 0 TAIL REF 0");
+        Check.dueFault(itself, 0, 31, BLACKHOLE, 0, 31);
+        ProductiveStreams itselfLast = Check.system(2, 40, "DEF 0 ZIPADD TAIL REF 0 REF 0");
+        Check.dueFault(itselfLast, 0, 31, RANGE, 0, 32);
     }
 
     private static void inOrder() {
@@ -357,7 +361,11 @@ final class EvalEdgesTest {
             Check.dueFault(Check.system(4, 40, ONES, HOLE, FAR, "DEF 3 " + holeFirst), 3, 0, BLACKHOLE, 1, 0);
             Check.dueFault(Check.system(4, 40, ONES, HOLE, FAR, "DEF 3 " + rangeFirst), 3, 0, RANGE, 2, 32);
         }
-        // All that the first demand leads to comes before the second demand.
+        // All that the first demand leads to comes before the second demand, even if the second can be refused at once.
+        ProductiveStreams second = Check.system(4, 40, ONES, HOLE, FAR, "DEF 3 ZIPADD REF 1 TAIL REF 0");
+        Check.dueFault(second, 3, 31, BLACKHOLE, 1, 31);
+        ProductiveStreams loop = Check.system(4, 40, ONES, HOLE, FAR, "DEF 3 ZIPADD REF 2 REF 3");
+        Check.dueFault(loop, 3, 31, RANGE, 2, 32);
         ProductiveStreams deep = Check.system(4, 40, "DEF 0 REF 2", HOLE, "DEF 2 TAIL REF 2", "DEF 3 ZIPADD REF 0 REF 1");
         Check.dueFault(deep, 3, 5, RANGE, 2, 32);
         ProductiveStreams own = Check.system(4, 40, ONES, HOLE, FAR, "DEF 3 ZIPADD REF 3 REF 1");
@@ -437,14 +445,22 @@ final class EvalEdgesTest {
     }
 
     private static void cellsStay() {
-        ProductiveStreams s = Check.system(4, 40, ONES, HOLE, FAR, "DEF 3 CONS ADD NUM 4 HEAD REF 0 ZIPADD TAIL REF 0 REF 3");
-        String before = Edges.judged(s).replaceAll("value.*fault \\S+", "");
-        for (int x = 0; x < 4; x++) {
+        String[] definitions = {ONES, HOLE, FAR, "DEF 3 CONS ADD NUM 4 HEAD REF 0 ZIPADD TAIL REF 0 REF 3",
+            "DEF 4 CONS NUM 1 REF 5", "DEF 5 CONS NUM 1 REF 4", "DEF 6 CONS NUM 1 REF 7", "DEF 7 REF 6"};
+        String before = withoutResult(Check.system(8, 40, definitions));
+        String cells = Edges.cellsOf(String.join(" ", definitions));
+        ProductiveStreams s = Check.system(8, 40, definitions);
+        for (int x = 0; x < 8; x++) {
             for (int j = 0; j < 32; j++) {
                 s.eval(x, j);
-                Check.due("the object after eval(" + x + ", " + j + ")", Edges.judged(s).replaceAll("value.*fault \\S+", ""), before);
+                Check.due("the object after eval(" + x + ", " + j + ")", withoutResult(s), before);
+                Check.due("the cells after eval(" + x + ", " + j + ")", Edges.cells(s, s.used()), cells);
             }
         }
+    }
+
+    private static String withoutResult(ProductiveStreams s) {
+        return Edges.judged(s).replaceAll("value.*fault \\S+", "");
     }
 
     /** All small stream expressions over two names. */

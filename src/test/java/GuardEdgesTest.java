@@ -208,13 +208,13 @@ final class GuardEdgesTest {
             Edges.dueNoChange("guard(0, 0)", Edges.state(3, 40, systems[k]), s -> s.guard(0, 0), want[k]);
             Edges.dueNoChange("guard(-1, 3)", Edges.state(3, 40, systems[k]), s -> s.guard(-1, 3), NONE);
         }
-        for (ProductiveStreams s : Edges.withResults()) {
-            String before = Check.view(s);
-            due(s, 0, 0, -1);
-            due(s, 1, 1, 0);
-            due(s, 2, 2, 5);
-            due(s, 5, 0, NONE);
-            Check.due("the object after guard", Check.view(s), before);
+        int[][] calls = {{0, 0, -1}, {1, 1, 0}, {2, 2, 5}, {0, 1, NONE}, {5, 0, NONE}, {-1, -1, NONE}};
+        for (int k = 0; k < 3; k++) {
+            int outcome = k;
+            for (int[] call : calls) {
+                String words = "guard(" + call[0] + ", " + call[1] + ") after eval";
+                Edges.dueNoChange(words, () -> Edges.withResults()[outcome], s -> s.guard(call[0], call[1]), call[2]);
+            }
         }
     }
 }

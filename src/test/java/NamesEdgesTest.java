@@ -1,3 +1,5 @@
+import java.util.function.Supplier;
+
 /** The boundary cases of promise 6, a test for each sentence. */
 final class NamesEdgesTest {
     public static void main(String[] args) {
@@ -109,14 +111,15 @@ final class NamesEdgesTest {
 
     private static void changeNothing() {
         String[] words = {"DEF 1", "DEF 1 ZIPADD CONS MUL", "DEF 1 REF 0", "DEF 2 REF 2"};
+        int[] open = {1, 1, -1, -1};
         int[] names = {Edges.LEAST, -1, 0, 1, 2, 3, 8, Edges.MOST};
-        for (String definition : words) {
-            ProductiveStreams s = Check.system(3, 40, "DEF 0 CONS NUM 1 REF 0", definition);
+        for (int w = 0; w < words.length; w++) {
+            Supplier<ProductiveStreams> state = Edges.evaluated(3, 40, "DEF 0 CONS NUM 1 REF 0", words[w]);
+            Edges.dueNoChange("openName()", state, ProductiveStreams::openName, open[w]);
             for (int name : names) {
-                s.openName();
-                s.defined(name);
+                boolean want = name == 0 || w == 2 && name == 1 || w == 3 && name == 2;
+                Edges.dueNoChange("defined(" + name + ")", state, s -> s.defined(name) ? 1 : 0, want ? 1 : 0);
             }
-            Edges.dueTwins("openName and defined", s, Check.system(3, 40, "DEF 0 CONS NUM 1 REF 0", definition));
         }
     }
 }

@@ -166,25 +166,27 @@ final class ResetEdgesTest {
             {"DEF 2 CONS NUM 1 CONS HEAD REF 0"},
             {"DEF 2 " + Check.repeat("TAIL", 18) + "REF 2"}};
         for (int k = 0; k < STATES.size(); k++) {
+            Supplier<ProductiveStreams> state = STATES.get(k);
+            Edges.dueSame("reset of state " + k, () -> afterReset(state), () -> new ProductiveStreams(4, 20));
             for (String[] system : systems) {
-                ProductiveStreams s = STATES.get(k).get();
-                s.reset();
-                for (String definition : system) {
-                    Check.enter(s, definition);
-                }
-                Edges.dueTwins("reset of state " + k, s, Check.system(4, 20, system));
+                Edges.dueSame("reset of state " + k + " and new definitions", () -> afterReset(state, system), Edges.state(4, 20, system));
             }
         }
     }
 
-    private static void afterConstruction() {
-        ProductiveStreams s = new ProductiveStreams(4, 20);
-        String before = Edges.judged(s);
+    private static ProductiveStreams afterReset(Supplier<ProductiveStreams> state, String... definitions) {
+        ProductiveStreams s = state.get();
         s.reset();
-        Check.due("reset of a new object", Edges.judged(s), before);
-        Check.due("cells after reset of a new object", Edges.cellsTaken(s), 20);
-        ProductiveStreams t = new ProductiveStreams(4, 20);
-        t.reset();
-        Check.due("names after reset of a new object", Edges.namesTaken(t), Edges.firstNames(4));
+        for (String definition : definitions) {
+            Check.enter(s, definition);
+        }
+        return s;
+    }
+
+    private static void afterConstruction() {
+        Supplier<ProductiveStreams> fresh = () -> new ProductiveStreams(4, 20);
+        Edges.dueSame("reset of a new object", () -> afterReset(fresh), fresh);
+        Check.due("cells after reset of a new object", Edges.cellsTaken(afterReset(fresh)), 20);
+        Check.due("names after reset of a new object", Edges.namesTaken(afterReset(fresh)), Edges.firstNames(4));
     }
 }

@@ -1,3 +1,5 @@
+import java.util.function.Supplier;
+
 /** The boundary cases of promise 11, a test for each sentence. */
 final class ResultsEdgesTest {
     private static final String NOTHING = "value 0 fault -1,-1";
@@ -100,15 +102,15 @@ final class ResultsEdgesTest {
     }
 
     private static void readingsChangeNothing() {
+        int[] values = {41, 0, 0};
+        int[] faultNames = {-1, 1, 2};
+        int[] faultIndexes = {-1, 7, 32};
         for (int k = 0; k < 3; k++) {
-            ProductiveStreams s = Edges.withResults()[k];
-            ProductiveStreams twin = Edges.withResults()[k];
-            for (int times = 0; times < 3; times++) {
-                s.value();
-                s.faultName();
-                s.faultIndex();
-            }
-            Edges.dueTwins("value, faultName and faultIndex", s, twin);
+            int outcome = k;
+            Supplier<ProductiveStreams> state = () -> Edges.withResults()[outcome];
+            Edges.dueNoChange("value()", state, ProductiveStreams::value, values[k]);
+            Edges.dueNoChange("faultName()", state, ProductiveStreams::faultName, faultNames[k]);
+            Edges.dueNoChange("faultIndex()", state, ProductiveStreams::faultIndex, faultIndexes[k]);
         }
     }
 
@@ -118,8 +120,9 @@ final class ResultsEdgesTest {
 
     private static void afterBegin() {
         int[] refused = {Edges.LEAST, -1, 0, 1, 2, 5, 8, Edges.MOST};
-        for (ProductiveStreams s : Edges.withResults()) {
-            String before = Check.result(s);
+        for (int outcome = 0; outcome < 3; outcome++) {
+            ProductiveStreams s = Edges.withResults()[outcome];
+            String before = Edges.RESULTS[outcome];
             for (int name : refused) {
                 s.begin(name);
                 dueKept(s, before, "a refused begin(" + name + ")");
@@ -132,8 +135,9 @@ final class ResultsEdgesTest {
     }
 
     private static void afterToken() {
-        for (ProductiveStreams s : Edges.withResults()) {
-            String before = Check.result(s);
+        for (int outcome = 0; outcome < 3; outcome++) {
+            ProductiveStreams s = Edges.withResults()[outcome];
+            String before = Edges.RESULTS[outcome];
             s.token(ProductiveStreams.REF, 0);
             dueKept(s, before, "a token with none open");
             s.begin(4);
@@ -149,8 +153,9 @@ final class ResultsEdgesTest {
     private static void afterVerdict() {
         int[] want = {ProductiveStreams.UNGUARDED, ProductiveStreams.OPEN, ProductiveStreams.UNDEFINED, ProductiveStreams.OPEN, ProductiveStreams.UNGUARDED};
         String[] words = {"", "DEF 3", "REF 4", "DEF 4", "REF 0"};
-        for (ProductiveStreams s : Edges.withResults()) {
-            String before = Check.result(s);
+        for (int outcome = 0; outcome < 3; outcome++) {
+            ProductiveStreams s = Edges.withResults()[outcome];
+            String before = Edges.RESULTS[outcome];
             for (int k = 0; k < words.length; k++) {
                 if (!words[k].isEmpty()) {
                     Check.enter(s, words[k]);
@@ -171,8 +176,9 @@ final class ResultsEdgesTest {
 
     private static void afterGuard() {
         int[] names = {Edges.LEAST, -1, 0, 1, 2, 3, 4, 5, 8, Edges.MOST};
-        for (ProductiveStreams s : Edges.withResults()) {
-            String before = Check.result(s);
+        for (int outcome = 0; outcome < 3; outcome++) {
+            ProductiveStreams s = Edges.withResults()[outcome];
+            String before = Edges.RESULTS[outcome];
             for (int a : names) {
                 for (int b : names) {
                     s.guard(a, b);
@@ -184,8 +190,9 @@ final class ResultsEdgesTest {
 
     private static void afterNotReady() {
         int[] ints = {Edges.LEAST, -1, 0, 1, 2, 3, 31, 32, Edges.MOST};
-        for (ProductiveStreams s : Edges.withResults()) {
-            String before = Check.result(s);
+        for (int outcome = 0; outcome < 3; outcome++) {
+            ProductiveStreams s = Edges.withResults()[outcome];
+            String before = Edges.RESULTS[outcome];
             String[] words = {"DEF 3", "REF 4"};
             for (String word : words) {
                 Check.enter(s, word);
@@ -202,8 +209,9 @@ final class ResultsEdgesTest {
     private static void afterBadArgument() {
         int[][] calls = {{-1, 0}, {Edges.LEAST, 0}, {5, 0}, {8, 0}, {Edges.MOST, 0}, {3, 0}, {4, 31}, {0, -1}, {0, Edges.LEAST}, {0, 32}, {0, Edges.MOST},
             {1, -1}, {1, 32}, {2, -1}, {2, 32}, {-1, -1}, {3, 32}};
-        for (ProductiveStreams s : Edges.withResults()) {
-            String before = Check.result(s);
+        for (int outcome = 0; outcome < 3; outcome++) {
+            ProductiveStreams s = Edges.withResults()[outcome];
+            String before = Edges.RESULTS[outcome];
             for (int[] call : calls) {
                 Check.due("eval(" + call[0] + ", " + call[1] + ")", s.eval(call[0], call[1]), ProductiveStreams.BADARG);
                 dueKept(s, before, "eval(" + call[0] + ", " + call[1] + ")");

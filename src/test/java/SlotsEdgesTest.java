@@ -1,3 +1,5 @@
+import java.util.function.Supplier;
+
 /** The boundary cases of promise 5, a test for each sentence. */
 final class SlotsEdgesTest {
     public static void main(String[] args) {
@@ -41,9 +43,12 @@ final class SlotsEdgesTest {
         }
     }
 
-    /** Objects with from 1 to 96 pending slots. */
+    /** Objects with from 1 to 96 pending slots, which had 96 of them before. */
     private static ProductiveStreams withSlots(int count) {
-        return Check.system(2, 96, "DEF 0 " + Check.repeat("ZIPADD", count - 1));
+        ProductiveStreams s = Check.system(2, 96, "DEF 1 " + Check.repeat("ZIPADD", 95));
+        s.reset();
+        Check.enter(s, "DEF 0 " + Check.repeat("ZIPADD", count - 1));
+        return s;
     }
 
     private static void negative() {
@@ -99,15 +104,17 @@ final class SlotsEdgesTest {
     }
 
     private static void changeNothing() {
-        String[] words = {"DEF 1", "DEF 1 CONS", "DEF 1 ZIPADD CONS MUL", "DEF 1 REF 0", "DEF 1 CONS NUM 1"};
-        int[] ks = {Edges.LEAST, -1, 0, 1, 2, 3, 4, 95, 96, Edges.MOST};
-        for (String definition : words) {
-            ProductiveStreams s = Check.system(2, 40, "DEF 0 CONS NUM 1 REF 0", definition);
+        String[] words = {"DEF 1", "DEF 1 CONS", "DEF 1 ZIPADD ZIPADD CONS MUL", "DEF 1 REF 0", "DEF 1 CONS NUM 1"};
+        int[] counts = {1, 2, 5, 0, 1};
+        int[] first = {2, 1, 1, 0, 2};
+        int[] ks = {Edges.LEAST, -1, 5, 95, 96, Edges.MOST};
+        for (int w = 0; w < words.length; w++) {
+            Supplier<ProductiveStreams> state = Edges.evaluated(2, 40, "DEF 0 CONS NUM 1 REF 0", words[w]);
+            Edges.dueNoChange("pending()", state, ProductiveStreams::pending, counts[w]);
+            Edges.dueNoChange("slot(0)", state, s -> s.slot(0), first[w]);
             for (int k : ks) {
-                s.pending();
-                s.slot(k);
+                Edges.dueNoChange("slot(" + k + ")", state, s -> s.slot(k), 0);
             }
-            Edges.dueTwins("pending and slot", s, Check.system(2, 40, "DEF 0 CONS NUM 1 REF 0", definition));
         }
     }
 }

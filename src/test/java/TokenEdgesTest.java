@@ -1,3 +1,5 @@
+import java.util.function.Supplier;
+
 /** The boundary cases of promise 4, a test for each sentence. */
 final class TokenEdgesTest {
     private static final int[] VALUES = {0, 1, -1, 3, 4, 7, 8, 12, 96, 256, 65536, Edges.LEAST, Edges.LEAST + 1, Edges.MOST - 1, Edges.MOST};
@@ -32,7 +34,7 @@ final class TokenEdgesTest {
 
     private static void dueRefused(int kind, int value, int names, int cells, String... definitions) {
         String call = "token(" + kind + ", " + value + ") after " + String.join("; ", definitions);
-        Edges.dueRefused(call, Edges.state(names, cells, definitions), s -> s.token(kind, value));
+        Edges.dueRefused(call, Edges.evaluated(names, cells, definitions), s -> s.token(kind, value));
     }
 
     private static void kindRefused(int... kinds) {
@@ -157,17 +159,23 @@ final class TokenEdgesTest {
         for (int kind = 2; kind <= 10; kind++) {
             String words = kind <= 5 ? ELEM_NEXT : STREAM_NEXT;
             for (int value : VALUES) {
-                ProductiveStreams s = Check.system(4, 40, ONES, words);
-                ProductiveStreams twin = Check.system(4, 40, ONES, words);
                 String call = "token(" + kind + ", " + value + ")";
+                ProductiveStreams s = Check.system(4, 40, ONES, words);
                 int at = s.used();
                 Check.due(call, s.token(kind, value), true);
                 Check.due("cellKind after " + call, s.cellKind(at), kind);
                 Check.due("cellValue after " + call, s.cellValue(at), 0);
-                twin.token(kind, 0);
-                Edges.dueTwins(call + " beside token(" + kind + ", 0)", s, twin);
+                Edges.dueSame(call + " beside token(" + kind + ", 0)", afterToken(words, kind, value), afterToken(words, kind, 0));
             }
         }
+    }
+
+    private static Supplier<ProductiveStreams> afterToken(String words, int kind, int value) {
+        return () -> {
+            ProductiveStreams s = Check.system(4, 40, ONES, words);
+            s.token(kind, value);
+            return s;
+        };
     }
 
     private static void anyLiteral() {
@@ -215,8 +223,9 @@ final class TokenEdgesTest {
 
     private static void resultsStay() {
         String[] words = {"CONS", "ADD", "HEAD", "TAIL", "REF 4", "SUB", "MUL", "NUM 6", "NUM 7", "NUM 8", "ZIPADD", "ZIPSUB", "REF 0", "REF 1", "ZIPMUL", "REF 2", "REF 3"};
-        for (ProductiveStreams s : Edges.withResults()) {
-            String before = Check.result(s);
+        for (int outcome = 0; outcome < 3; outcome++) {
+            ProductiveStreams s = Edges.withResults()[outcome];
+            String before = Edges.RESULTS[outcome];
             s.begin(3);
             for (String word : words) {
                 Check.enter(s, word);
@@ -228,26 +237,19 @@ final class TokenEdgesTest {
 
     private static void othersStay() {
         String[] words = {"CONS", "SUB", "NUM -5", "HEAD", "REF 5", "ZIPSUB", "TAIL", "REF 2", "REF 4"};
-        ProductiveStreams s = Check.system(6, 40, "DEF 5 CONS NUM 9 REF 5", "DEF 3 TAIL TAIL REF 1", "DEF 2");
-        int guard = s.guard(3, 1);
+        String entered = "DEF 5 CONS NUM 9 REF 5 DEF 3 TAIL TAIL REF 1 DEF 2";
+        ProductiveStreams s = Check.system(6, 40, entered);
         for (String word : words) {
-            int used = s.used();
-            String[] cells = new String[used];
-            for (int k = 0; k < used; k++) {
-                cells[k] = s.cellKind(k) + "/" + s.cellValue(k);
-            }
             Check.enter(s, word);
-            Check.due("used() after " + word, s.used(), used + 1);
-            for (int k = 0; k < used; k++) {
-                Check.due("cell " + k + " after " + word, s.cellKind(k) + "/" + s.cellValue(k), cells[k]);
-            }
+            entered += " " + word;
+            Check.due("the cells after " + word, Edges.cells(s, s.used()), Edges.cellsOf(entered));
             Check.due("defined(5) after " + word, s.defined(5), true);
             Check.due("defined(3) after " + word, s.defined(3), true);
             Check.due("defined(0) after " + word, s.defined(0), false);
             Check.due("defined(1) after " + word, s.defined(1), false);
             Check.due("defined(4) after " + word, s.defined(4), false);
             Check.due("guard(5, 5) after " + word, s.guard(5, 5), -1);
-            Check.due("guard(3, 1) after " + word, s.guard(3, 1), guard);
+            Check.due("guard(3, 1) after " + word, s.guard(3, 1), 2);
         }
         Check.due("defined(2) at the end", s.defined(2), true);
     }
