@@ -85,6 +85,31 @@ final class Model {
         return true;
     }
 
+    /** Takes the words that Check.enter takes. */
+    void enter(String words) {
+        String[] word = words.trim().split("\\s+");
+        for (int at = 0; at < word.length; at++) {
+            int kind = Check.kind(word[at]);
+            boolean valued = kind == 1 || kind == 11 || kind == 12;
+            int v = valued ? Integer.parseInt(word[++at]) : 0;
+            if (!(kind == 12 ? begin(v) : token(kind, v))) {
+                throw new IllegalArgumentException(words);
+            }
+        }
+    }
+
+    int value() {
+        return value;
+    }
+
+    int faultName() {
+        return faultName;
+    }
+
+    int faultIndex() {
+        return faultIndex;
+    }
+
     int pending() {
         return slots.length();
     }
