@@ -3,6 +3,7 @@ import com.sun.source.tree.AssignmentTree;
 import com.sun.source.tree.BlockTree;
 import com.sun.source.tree.ClassTree;
 import com.sun.source.tree.CompilationUnitTree;
+import com.sun.source.tree.CompoundAssignmentTree;
 import com.sun.source.tree.ExpressionTree;
 import com.sun.source.tree.ForLoopTree;
 import com.sun.source.tree.IdentifierTree;
@@ -11,6 +12,7 @@ import com.sun.source.tree.MethodTree;
 import com.sun.source.tree.NewArrayTree;
 import com.sun.source.tree.PrimitiveTypeTree;
 import com.sun.source.tree.Tree;
+import com.sun.source.tree.UnaryTree;
 import com.sun.source.tree.VariableTree;
 import com.sun.source.util.JavacTask;
 import com.sun.source.util.TreeScanner;
@@ -43,6 +45,9 @@ final class LanguageTest {
         Tree.Kind.MEMBER_SELECT, Tree.Kind.PARAMETERIZED_TYPE, Tree.Kind.ANNOTATION, Tree.Kind.IMPORT, Tree.Kind.PACKAGE);
     private static final EnumSet<Tree.Kind> LOOPS = EnumSet.of(Tree.Kind.WHILE_LOOP, Tree.Kind.DO_WHILE_LOOP, Tree.Kind.ENHANCED_FOR_LOOP);
 
+    private static final EnumSet<Tree.Kind> STEPS = EnumSet.of(Tree.Kind.PREFIX_INCREMENT, Tree.Kind.PREFIX_DECREMENT,
+        Tree.Kind.POSTFIX_INCREMENT, Tree.Kind.POSTFIX_DECREMENT);
+
     private static Trees trees;
     private static CompilationUnitTree unit;
     private static ClassTree theClass;
@@ -55,6 +60,7 @@ final class LanguageTest {
         Edges.sentence("LANGUAGE 1: no private method bears the name of a public one", LanguageTest::methodNames);
         Edges.sentence("LANGUAGE 2: whole numbers, booleans and one-dimensional arrays of them", LanguageTest::types);
         Edges.sentence("LANGUAGE 3: no class of the Java library", () -> dueNone(OBJECTS));
+        Edges.sentence("LANGUAGE 3: none of Object's methods is called", LanguageTest::ownCalls);
         Edges.sentence("LANGUAGE 4: arrays are made in the fields' initialisers, with a constant length", LanguageTest::arraysMade);
         Edges.sentence("LANGUAGE 4: an array is never answered, and no method assigns to an array field", LanguageTest::arraysKept);
         Edges.sentence("LANGUAGE 5: static fields are constants of int or long; no initialiser block", LanguageTest::staticFields);
@@ -268,6 +274,15 @@ final class LanguageTest {
         return calls;
     }
 
+    private static void ownCalls() {
+        Map<String, Set<String>> calls = calls();
+        for (String method : calls.keySet()) {
+            for (String called : calls.get(method)) {
+                Check.due(called + ", called in " + method + ", is a method of the class", calls.containsKey(called), true);
+            }
+        }
+    }
+
     private static boolean recursive(String method, Map<String, Set<String>> calls, List<String> path) {
         if (path.contains(method)) {
             Check.report("recursion: " + path + " " + method);
@@ -286,9 +301,6 @@ final class LanguageTest {
     private static void noRecursion() {
         Map<String, Set<String>> calls = calls();
         for (String method : calls.keySet()) {
-            for (String called : calls.get(method)) {
-                Check.due(called + ", called in " + method + ", is a method of the class", calls.containsKey(called), true);
-            }
             recursive(method, calls, new ArrayList<>());
         }
     }
@@ -314,10 +326,28 @@ final class LanguageTest {
         new TreeScanner<Void, Void>() {
             @Override
             public Void visitAssignment(AssignmentTree assignment, Void nothing) {
-                if (assignment.getVariable().toString().equals(counter)) {
-                    broken(assignment);
-                }
+                dueOther(assignment.getVariable());
                 return super.visitAssignment(assignment, nothing);
+            }
+
+            @Override
+            public Void visitCompoundAssignment(CompoundAssignmentTree assignment, Void nothing) {
+                dueOther(assignment.getVariable());
+                return super.visitCompoundAssignment(assignment, nothing);
+            }
+
+            @Override
+            public Void visitUnary(UnaryTree unary, Void nothing) {
+                if (STEPS.contains(unary.getKind())) {
+                    dueOther(unary.getExpression());
+                }
+                return super.visitUnary(unary, nothing);
+            }
+
+            private void dueOther(ExpressionTree variable) {
+                if (variable.toString().equals(counter)) {
+                    broken(variable);
+                }
             }
         }.scan(loop.getStatement(), null);
     }

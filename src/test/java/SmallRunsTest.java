@@ -1,7 +1,7 @@
 import java.util.ArrayList;
 import java.util.List;
 
-/** Every run of a few calls there is, from several beginnings, on the class and on the model, which must answer alike. */
+/** Every run of a few calls out of those that differ in kind, from several beginnings, on the class and on the model, which must answer alike. */
 final class SmallRunsTest {
     private static final List<int[]> CALLS = new ArrayList<>();
     private static final int BEGIN = 0;
